@@ -6,6 +6,7 @@ public final class SettingsTest {
     promise1NewObject();
     promise2Build();
     promise2BuildKeepsSettingsOnly();
+    promise2BuildForgetsPartsAndFixtures();
     promise3FillingPressure();
     promise3Limits();
     promise3BitsAreTakenExactly();
@@ -107,6 +108,27 @@ public final class SettingsTest {
     Check.due("part(0, 4) behind build", x.part(0, 4), 0);
     Check.due("part(0, 6) behind build", x.part(0, 6), LeakCarousel.NONE);
     Check.due("part(0, 8) behind build", x.part(0, 8), 0);
+  }
+
+  private static void promise2BuildForgetsPartsAndFixtures() {
+    LeakCarousel x = new LeakCarousel();
+    x.equip(1, 3, 2);
+    x.equip(3, 0, 1);
+    x.add(false, 50, 100);
+    x.run(14);
+    Check.due("part(0, 5) ahead of build", x.part(0, 5), 2);
+    x.build(4);
+    for (int head = 0; head < 4; head++) {
+      dueHeadAtFirst(x, head, 4);
+    }
+    int[] told = {1, 3, 4, Runs.WAITING, 0, 0, LeakCarousel.NONE, LeakCarousel.NONE, 0};
+    x.add(true, 3, 4);
+    for (int what = 0; what < told.length; what++) {
+      Check.due("part(0, " + what + ") behind build", x.part(0, what), told[what]);
+    }
+    Check.dueNaN("value(0) behind build", x.value(0));
+    x.run(1);
+    Check.due("the head of its latest test is forgotten", x.head(0, 3), 0);
   }
 
   private static void promise3FillingPressure() {

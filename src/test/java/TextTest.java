@@ -46,6 +46,16 @@ public final class TextTest {
     Check.due("readParts()", x.readParts(), -103);
     x.type('1');
     Check.due("readParts()", x.readParts(), -103);
+    // no character stands for the end of the text
+    char[] ends = {0, 0xFFFF};
+    for (char end : ends) {
+      Runs.write(x, "v1/1");
+      x.type(end);
+      Check.due("readParts()", x.readParts(), -104);
+      Runs.write(x, "stop");
+      x.type(end);
+      Check.due("perform()", x.perform(), LeakCarousel.BAD_VALUE);
+    }
   }
 
   private static void promise10ClearText() {
