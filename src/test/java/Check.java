@@ -21,6 +21,19 @@ final class Check {
     dueNumber(call, got, Double.NaN);
   }
 
+  /** Two tellings of many lines; the first line that differs is printed. */
+  static void dueWords(String what, String got, String due) {
+    String[] gotLines = got.split("\n");
+    String[] dueLines = due.split("\n");
+    int at = 0;
+    while (at < gotLines.length && at < dueLines.length && gotLines[at].equals(dueLines[at])) {
+      at++;
+    }
+    String gotLine = at < gotLines.length ? gotLines[at] : "nothing more";
+    String dueLine = at < dueLines.length ? dueLines[at] : "nothing more";
+    settle(got.equals(due), what, "\"" + gotLine + "\"", "\"" + dueLine + "\"");
+  }
+
   static void dueTrue(String what, boolean holds) {
     settle(holds, what, "false", "true");
   }
@@ -43,7 +56,8 @@ final class Check {
 
   private static String placeIn(StackTraceElement[] stack) {
     for (StackTraceElement element : stack) {
-      if (!element.getClassName().equals("Check")) {
+      String name = element.getClassName();
+      if (!name.equals("Check") && !name.equals("Told")) {
         return "(" + element.getMethodName() + ", line " + element.getLineNumber() + ")";
       }
     }

@@ -12,7 +12,7 @@ public final class HistoryTest {
   }
 
   private static void promise13Undo() {
-    LeakCarousel x = new LeakCarousel();
+    Renewed x = new Renewed();
     Runs.dueRefused(x, "undo() of nothing", () -> x.undo(), LeakCarousel.NONE);
     String first = Runs.stateOf(x);
     x.build(5);
@@ -28,7 +28,7 @@ public final class HistoryTest {
   }
 
   private static void promise13FifthStateDropsTheOldest() {
-    LeakCarousel x = new LeakCarousel();
+    Renewed x = new Renewed();
     String[] states = new String[6];
     for (int i = 0; i < 5; i++) {
       states[i] = Runs.stateOf(x);
@@ -44,7 +44,7 @@ public final class HistoryTest {
   }
 
   private static void promise13RoundTheHistoryManyTimes() {
-    LeakCarousel x = new LeakCarousel();
+    Renewed x = new Renewed();
     String[] states = new String[60];
     for (int i = 0; i < 50; i++) {
       states[i] = Runs.stateOf(x);
@@ -67,7 +67,7 @@ public final class HistoryTest {
   }
 
   private static void promise13LeavesTextAndSnapshot() {
-    LeakCarousel x = new LeakCarousel();
+    Renewed x = new Renewed();
     x.add(false, 1, 1);
     x.keep();
     Runs.write(x, "turn");
@@ -85,7 +85,7 @@ public final class HistoryTest {
   }
 
   private static void promise14Keep() {
-    LeakCarousel x = new LeakCarousel();
+    Renewed x = new Renewed();
     Check.due("keep() of nothing", x.keep(), 0);
     Check.due("keep is no act", x.count(15), 0);
     x.add(false, 1, 1);
@@ -104,7 +104,7 @@ public final class HistoryTest {
   }
 
   private static void promise15Restore() {
-    LeakCarousel x = new LeakCarousel();
+    Renewed x = new Renewed();
     Runs.dueRefused(x, "restore() without a snapshot", () -> x.restore(), LeakCarousel.NONE);
     x.build(6);
     x.setInterval(3);
@@ -134,7 +134,7 @@ public final class HistoryTest {
   }
 
   private static void promise15RestoreIsAnAct() {
-    LeakCarousel x = new LeakCarousel();
+    Renewed x = new Renewed();
     x.keep();
     Runs.dueAct(x, "restore() of the same state", () -> x.restore(), 0);
     x.add(false, 5, 5);

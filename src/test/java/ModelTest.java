@@ -6,6 +6,8 @@
 public final class ModelTest {
   private static final int OBJECTS = 4000;
   private static final int CALLS = 512;
+  /** Of writing a text anew, and of performing and reading it. */
+  private static final int MOST_AT_ONCE = 63;
   private static final double[] PRESSURES = {0.0, 1.0, 2.0, 19.5, 20.0, 25.0, 30.0, 100.0, 333.3, 500.0, 1000.0,
     1000000.0, 1.0e-300, Double.MIN_VALUE, 0.999, 1000.001, 1000000.5, -1.0, -0.0};
   private static final int[] LEAKS = {0, 1, 40, 45, 50, 55, 60, 70, 120, 300, 999, 5000, 60000, 99999, 100000, -1};
@@ -33,7 +35,7 @@ public final class ModelTest {
     LeakCarousel x = new LeakCarousel();
     Model m = new Model();
     int telling = 1 + chance(8);
-    for (int calls = 0; calls < CALLS && Check.allRight(); ) {
+    for (int calls = 0; calls <= CALLS - MOST_AT_ONCE && Check.allRight(); ) {
       String name = "object " + object + ", call " + calls + ": ";
       int kind = chance(10);
       if (kind < telling) {
@@ -46,16 +48,16 @@ public final class ModelTest {
     }
   }
 
-  private static int head(LeakCarousel x) {
-    return chance(20) == 0 ? chance(12) - 2 : chance(x.count(0));
+  private static int head(Model m) {
+    return chance(20) == 0 ? chance(12) - 2 : chance(m.count(0));
   }
 
-  private static int part(LeakCarousel x) {
-    return chance(20) == 0 ? chance(64) - 2 : chance(x.count(2) + 1);
+  private static int part(Model m) {
+    return chance(20) == 0 ? chance(64) - 2 : chance(m.count(2) + 1);
   }
 
   private static int act(LeakCarousel x, Model m, String name) {
-    int head = head(x);
+    int head = head(m);
     int few = chance(12) - 1;
     int leak = LEAKS[chance(LEAKS.length)];
     int volume = VOLUMES[chance(VOLUMES.length)];
@@ -130,8 +132,8 @@ public final class ModelTest {
   }
 
   private static int tell(LeakCarousel x, Model m, String name) {
-    int head = head(x);
-    int part = part(x);
+    int head = head(m);
+    int part = part(m);
     int what = chance(11) - 1;
     switch (chance(10)) {
       case 0:

@@ -30,6 +30,27 @@ final class Runs {
     return x.setPressure(what, Double.doubleToRawLongBits(number));
   }
 
+  static void write(Renewed x, String words) {
+    x.clearText();
+    for (int i = 0; i < words.length(); i++) {
+      x.type(words.charAt(i));
+    }
+  }
+
+  static int read(Renewed x, String words) {
+    write(x, words);
+    return x.readParts();
+  }
+
+  static int perform(Renewed x, String words) {
+    write(x, words);
+    return x.perform();
+  }
+
+  static int setPressure(Renewed x, int what, double number) {
+    return x.setPressure(what, Double.doubleToRawLongBits(number));
+  }
+
   /** The pressure behind so many steps, as it stands under STEPS. */
   static double decayed(double from, int leak, int volume, int times) {
     double p = from;
@@ -43,7 +64,7 @@ final class Runs {
   }
 
   /** Everything that is told but the history (count(15)) and the text (count(16)). */
-  static String stateOf(LeakCarousel x) {
+  static String stateOf(Renewed x) {
     StringBuilder told = new StringBuilder();
     for (int what = 0; what <= 14; what++) {
       told.append(x.count(what)).append(' ');
@@ -60,7 +81,7 @@ final class Runs {
     return told.toString();
   }
 
-  private static void tellHead(StringBuilder told, LeakCarousel x, int head) {
+  private static void tellHead(StringBuilder told, Renewed x, int head) {
     told.append("\nhead ").append(head);
     for (int what = 0; what <= 8; what++) {
       told.append(' ').append(x.head(head, what));
@@ -74,7 +95,7 @@ final class Runs {
     told.append(' ').append(x.display(head));
   }
 
-  private static void tellPart(StringBuilder told, LeakCarousel x, int part) {
+  private static void tellPart(StringBuilder told, Renewed x, int part) {
     told.append("\npart ").append(part);
     for (int what = 0; what <= 8; what++) {
       told.append(' ').append(x.part(part, what));
@@ -86,7 +107,7 @@ final class Runs {
   }
 
   /** An error or NONE: it answers so, and changes nothing. */
-  static void dueRefused(LeakCarousel x, String call, java.util.function.IntSupplier act, int due) {
+  static void dueRefused(Renewed x, String call, java.util.function.IntSupplier act, int due) {
     String before = stateOf(x);
     int states = x.count(15);
     int length = x.count(16);
@@ -97,7 +118,7 @@ final class Runs {
   }
 
   /** An act: it answers so, records one state, and undo brings back the one before. */
-  static void dueAct(LeakCarousel x, String call, java.util.function.IntSupplier act, int due) {
+  static void dueAct(Renewed x, String call, java.util.function.IntSupplier act, int due) {
     String before = stateOf(x);
     int states = Math.min(x.count(15) + 1, 4);
     int length = x.count(16);

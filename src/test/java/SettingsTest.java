@@ -20,7 +20,7 @@ public final class SettingsTest {
   }
 
   private static void promise1NewObject() {
-    LeakCarousel x = new LeakCarousel();
+    Renewed x = new Renewed();
     int[] counts = {4, 0, 0, 0, 0, 0, 0, 0, 0, 20, 0, 0, 0, 0, 0, 0, 0};
     for (int what = 0; what < counts.length; what++) {
       Check.due("count(" + what + ") at first", x.count(what), counts[what]);
@@ -41,7 +41,7 @@ public final class SettingsTest {
     Check.due("the constants", LeakCarousel.NONE, -5);
   }
 
-  private static void dueHeadAtFirst(LeakCarousel x, int head, int heads) {
+  private static void dueHeadAtFirst(Renewed x, int head, int heads) {
     int[] told = {0, 0, 0, LeakCarousel.NONE, 0, 0, 0, 0, head};
     for (int what = 0; what < told.length; what++) {
       Check.due("head(" + head + ", " + what + ") of " + heads, x.head(head, what), told[what]);
@@ -54,7 +54,7 @@ public final class SettingsTest {
   }
 
   private static void promise2Build() {
-    LeakCarousel x = new LeakCarousel();
+    Renewed x = new Renewed();
     int[] wrong = {1, 9, 0, -1, Integer.MIN_VALUE, Integer.MAX_VALUE};
     for (int heads : wrong) {
       Runs.dueRefused(x, "build(" + heads + ")", () -> x.build(heads), LeakCarousel.BAD_VALUE);
@@ -76,7 +76,7 @@ public final class SettingsTest {
   }
 
   private static void promise2BuildKeepsSettingsOnly() {
-    LeakCarousel x = new LeakCarousel();
+    Renewed x = new Renewed();
     Runs.setPressure(x, 0, 400.0);
     Runs.setPressure(x, 1, 3.0);
     Runs.setPressure(x, 2, 2.0);
@@ -111,7 +111,7 @@ public final class SettingsTest {
   }
 
   private static void promise2BuildForgetsPartsAndFixtures() {
-    LeakCarousel x = new LeakCarousel();
+    Renewed x = new Renewed();
     x.equip(1, 3, 2);
     x.equip(3, 0, 1);
     x.add(false, 50, 100);
@@ -132,7 +132,7 @@ public final class SettingsTest {
   }
 
   private static void promise3FillingPressure() {
-    LeakCarousel x = new LeakCarousel();
+    Renewed x = new Renewed();
     double[] right = {1.0, 1000.0, Math.nextUp(1.0), Math.nextDown(1000.0), 500.0, 1.0 / 3.0 + 1.0};
     for (double number : right) {
       long bits = Double.doubleToRawLongBits(number);
@@ -148,12 +148,12 @@ public final class SettingsTest {
     dueNoNumbers(x, 0);
   }
 
-  private static void dueBadBits(LeakCarousel x, int what, long bits) {
+  private static void dueBadBits(Renewed x, int what, long bits) {
     String call = "setPressure(" + what + ", " + bits + ")";
     Runs.dueRefused(x, call, () -> x.setPressure(what, bits), LeakCarousel.BAD_VALUE);
   }
 
-  private static void dueNoNumbers(LeakCarousel x, int what) {
+  private static void dueNoNumbers(Renewed x, int what) {
     long[] bits = {0x7FF8000000000000L, 0x7FF0000000000001L, 0x7FFFFFFFFFFFFFFFL,
       0xFFF8000000000000L, 0xFFF0000000000001L, -1L, MINUS_ZERO};
     for (long wrong : bits) {
@@ -163,7 +163,7 @@ public final class SettingsTest {
 
   private static void promise3Limits() {
     for (int what = 1; what <= 2; what++) {
-      LeakCarousel x = new LeakCarousel();
+      Renewed x = new Renewed();
       int limit = what;
       double[] right = {0.0, 1000000.0, Double.MIN_VALUE, Math.nextDown(1000000.0), Double.MIN_NORMAL, 25.0};
       for (double number : right) {
@@ -181,7 +181,7 @@ public final class SettingsTest {
       x.setPressure(what, 0L);
       dueBadBits(x, what, MINUS_ZERO);
     }
-    LeakCarousel x = new LeakCarousel();
+    Renewed x = new Renewed();
     int[] wrong = {-1, 3, Integer.MIN_VALUE, Integer.MAX_VALUE};
     for (int what : wrong) {
       dueBadBits(x, what, Double.doubleToRawLongBits(500.0));
@@ -194,7 +194,7 @@ public final class SettingsTest {
   private static void promise3BitsAreTakenExactly() {
     for (int i = 0; i < 200; i++) {
       double filling = 1.0 + 999.0 * (i * 0.61803398875 - (int) (i * 0.61803398875));
-      LeakCarousel x = new LeakCarousel();
+      Renewed x = new Renewed();
       Runs.setPressure(x, 0, filling);
       x.add(false, 77, 13);
       x.run(1);
@@ -212,7 +212,7 @@ public final class SettingsTest {
   }
 
   private static int stateAtLimits(double filling, double lower, double upper) {
-    LeakCarousel x = new LeakCarousel();
+    Renewed x = new Renewed();
     Runs.setPressure(x, 0, filling);
     Runs.setPressure(x, 1, lower);
     Runs.setPressure(x, 2, upper);
@@ -222,7 +222,7 @@ public final class SettingsTest {
   }
 
   private static int stateOfTight(double lower) {
-    LeakCarousel x = new LeakCarousel();
+    Renewed x = new Renewed();
     Runs.setPressure(x, 2, 0.0);
     Runs.setPressure(x, 1, lower);
     x.add(false, 0, 1);
@@ -231,7 +231,7 @@ public final class SettingsTest {
   }
 
   private static void promise4SetInterval() {
-    LeakCarousel x = new LeakCarousel();
+    Renewed x = new Renewed();
     int[] wrong = {0, 100, -1, Integer.MIN_VALUE, Integer.MAX_VALUE};
     for (int tests : wrong) {
       Runs.dueRefused(x, "setInterval(" + tests + ")", () -> x.setInterval(tests), LeakCarousel.BAD_VALUE);
@@ -244,7 +244,7 @@ public final class SettingsTest {
   }
 
   private static void promise5Equip() {
-    LeakCarousel x = new LeakCarousel();
+    Renewed x = new Renewed();
     Runs.dueRefused(x, "equip(4, 0, 1)", () -> x.equip(4, 0, 1), LeakCarousel.UNKNOWN);
     Runs.dueRefused(x, "equip(-1, 0, 1)", () -> x.equip(-1, 0, 1), LeakCarousel.UNKNOWN);
     Runs.dueRefused(x, "equip(4, -1, 9)", () -> x.equip(4, -1, 9), LeakCarousel.UNKNOWN);
@@ -266,7 +266,7 @@ public final class SettingsTest {
   }
 
   private static void promise5EquipUnderAPart() {
-    LeakCarousel x = new LeakCarousel();
+    Renewed x = new Renewed();
     x.add(true, 44, 10);
     x.run(2);
     Runs.dueAct(x, "equip(0, 9, 1)", () -> x.equip(0, 9, 1), 0);
@@ -277,7 +277,7 @@ public final class SettingsTest {
   }
 
   private static void promise6Calibrate() {
-    LeakCarousel x = new LeakCarousel();
+    Renewed x = new Renewed();
     x.equip(1, 1000, 0);
     x.equip(0, 0, 1);
     x.equip(2, 0, 1);
@@ -300,7 +300,7 @@ public final class SettingsTest {
   }
 
   private static void promise6CalibrateRefused() {
-    LeakCarousel x = new LeakCarousel();
+    Renewed x = new Renewed();
     x.add(false, 1, 1);
     x.run(1);
     Runs.dueRefused(x, "calibrate(-1, 0)", () -> x.calibrate(-1, 0), LeakCarousel.UNKNOWN);
@@ -318,7 +318,7 @@ public final class SettingsTest {
     int[] masters = {1, 7, 333, 50000, 99999};
     for (int heads = 2; heads <= 8; heads++) {
       for (int master : masters) {
-        LeakCarousel x = new LeakCarousel();
+        Renewed x = new Renewed();
         x.build(heads);
         Runs.setPressure(x, 0, 123.456 * heads);
         x.equip(0, 137, 0);

@@ -25,7 +25,7 @@ public final class StepsTest {
   }
 
   private static void promise7Add() {
-    LeakCarousel x = new LeakCarousel();
+    Renewed x = new Renewed();
     Runs.dueAct(x, "add(false, 0, 1)", () -> x.add(false, 0, 1), 0);
     Runs.dueAct(x, "add(true, 99999, 999)", () -> x.add(true, 99999, 999), 1);
     int[] first = {0, 0, 1, Runs.WAITING, 0, 0, LeakCarousel.NONE, LeakCarousel.NONE, 0};
@@ -39,7 +39,7 @@ public final class StepsTest {
   }
 
   private static void promise7Refused() {
-    LeakCarousel x = new LeakCarousel();
+    Renewed x = new Renewed();
     int bad = LeakCarousel.BAD_VALUE;
     Runs.dueRefused(x, "add(false, -1, 1)", () -> x.add(false, -1, 1), bad);
     Runs.dueRefused(x, "add(false, 100000, 1)", () -> x.add(false, 100000, 1), bad);
@@ -50,7 +50,7 @@ public final class StepsTest {
   }
 
   private static void promise7SixtyParts() {
-    LeakCarousel x = new LeakCarousel();
+    Renewed x = new Renewed();
     for (int i = 0; i < 60; i++) {
       Check.due("add", x.add(i % 2 == 0, i, i + 1), i);
     }
@@ -75,7 +75,7 @@ public final class StepsTest {
   }
 
   private static void promise8Refused() {
-    LeakCarousel x = new LeakCarousel();
+    Renewed x = new Renewed();
     x.add(false, 1, 1);
     int[] wrong = {0, 41, -1, Integer.MIN_VALUE, Integer.MAX_VALUE};
     for (int steps : wrong) {
@@ -88,7 +88,7 @@ public final class StepsTest {
   }
 
   private static void promise8StepsTellTheirTests() {
-    LeakCarousel x = new LeakCarousel();
+    Renewed x = new Renewed();
     Runs.read(x, "v1/9;v1/9;v1/9;v1/9;v1/9");
     Check.due("run(4)", x.run(4), 0);
     Check.due("run(3)", x.run(3), 3);
@@ -100,7 +100,7 @@ public final class StepsTest {
 
   private static void promise8HeadsComeInTurn() {
     for (int heads = 2; heads <= 8; heads++) {
-      LeakCarousel x = new LeakCarousel();
+      Renewed x = new Renewed();
       x.build(heads);
       for (int i = 0; i < 2 * heads; i++) {
         x.add(false, 0, 1);
@@ -121,7 +121,7 @@ public final class StepsTest {
   }
 
   private static void promise8PressureDecays() {
-    LeakCarousel x = new LeakCarousel();
+    Renewed x = new Renewed();
     x.add(false, 123, 7);
     x.add(true, 60000, 9);
     x.run(1);
@@ -141,7 +141,7 @@ public final class StepsTest {
       int heads = 2 + i % 7;
       int leak = i * 37 % 1000;
       int volume = 1 + i * 53 % 999;
-      LeakCarousel x = new LeakCarousel();
+      Renewed x = new Renewed();
       x.build(heads);
       Runs.setPressure(x, 0, 700.0 / (1 + i % 11));
       x.equip(0, 991, 0);
@@ -164,7 +164,7 @@ public final class StepsTest {
     Check.due("at half of it", causeOnTwoHeads(500, 1), 2);
     Check.due("below half of it", causeOnTwoHeads(501, 1), 1);
     Check.due("all of it is gone", causeOnTwoHeads(99999, 1), 1);
-    LeakCarousel x = new LeakCarousel();
+    Renewed x = new Renewed();
     x.build(2);
     x.add(true, 501, 1);
     x.run(3);
@@ -177,7 +177,7 @@ public final class StepsTest {
   }
 
   private static int causeOnTwoHeads(int leak, int volume) {
-    LeakCarousel x = new LeakCarousel();
+    Renewed x = new Renewed();
     x.build(2);
     x.add(false, leak, volume);
     x.run(3);
@@ -185,7 +185,7 @@ public final class StepsTest {
   }
 
   private static void promise8BurstComesFirst() {
-    LeakCarousel x = new LeakCarousel();
+    Renewed x = new Renewed();
     x.build(2);
     x.setInterval(1);
     Runs.setPressure(x, 1, 1000000.0);
@@ -201,7 +201,7 @@ public final class StepsTest {
   }
 
   private static void promise8Interval() {
-    LeakCarousel x = new LeakCarousel();
+    Renewed x = new Renewed();
     x.build(2);
     x.setInterval(2);
     x.equip(1, 0, 1);
@@ -229,7 +229,7 @@ public final class StepsTest {
   }
 
   private static void promise8IntervalAheadOfLimits() {
-    LeakCarousel x = new LeakCarousel();
+    Renewed x = new Renewed();
     x.build(2);
     x.setInterval(1);
     x.equip(1, 0, 2);
@@ -248,7 +248,7 @@ public final class StepsTest {
   }
 
   private static void promise8Limits() {
-    LeakCarousel x = new LeakCarousel();
+    Renewed x = new Renewed();
     x.build(2);
     // the value is leak / 2, and every step to it is exact
     Runs.read(x, "v40/1;v41/1;v60/1;v61/1;v0/1");
@@ -276,7 +276,7 @@ public final class StepsTest {
   }
 
   private static void promise8LowerLimitAheadOfUpper() {
-    LeakCarousel x = new LeakCarousel();
+    Renewed x = new Renewed();
     x.build(2);
     Runs.setPressure(x, 1, 50.0);
     Runs.setPressure(x, 2, 10.0);
@@ -287,7 +287,7 @@ public final class StepsTest {
   }
 
   private static void promise8RetestsOnOtherHeads() {
-    LeakCarousel x = new LeakCarousel();
+    Renewed x = new Renewed();
     x.build(2);
     Runs.read(x, "v50/100;v1/1;v1/1");
     x.run(3);
@@ -305,7 +305,7 @@ public final class StepsTest {
   }
 
   private static void promise8ThirdRetestIsRejected() {
-    LeakCarousel x = new LeakCarousel();
+    Renewed x = new Renewed();
     x.add(true, 50, 100);
     x.run(5);
     Check.due("part(0, 5)", x.part(0, 5), 1);
@@ -331,7 +331,7 @@ public final class StepsTest {
   }
 
   private static void promise8RetestsOfBothCauses() {
-    LeakCarousel x = new LeakCarousel();
+    Renewed x = new Renewed();
     x.build(2);
     x.setInterval(1);
     Runs.read(x, "v1/1;v1/1;v50/100");
@@ -354,7 +354,7 @@ public final class StepsTest {
   }
 
   private static void promise8GainWears() {
-    LeakCarousel x = new LeakCarousel();
+    Renewed x = new Renewed();
     x.build(2);
     x.equip(0, 3, 0);
     x.equip(1, 1000, 2);
@@ -375,7 +375,7 @@ public final class StepsTest {
   }
 
   private static void promise8FixturesChooseFromTheRow() {
-    LeakCarousel x = new LeakCarousel();
+    Renewed x = new Renewed();
     x.equip(0, 0, 2);
     x.equip(1, 0, 1);
     x.equip(2, 0, 1);
@@ -400,7 +400,7 @@ public final class StepsTest {
   }
 
   private static void promise8FillingPressureChangesUnderWay() {
-    LeakCarousel x = new LeakCarousel();
+    Renewed x = new Renewed();
     x.build(3);
     x.add(false, 10, 10);
     x.run(1);

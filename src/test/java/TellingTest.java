@@ -19,8 +19,8 @@ public final class TellingTest {
   }
 
   /** Two tests on head 0 (one retest, one accepted), a burst on head 1, parts on heads 0 and 1. */
-  private static LeakCarousel worked() {
-    LeakCarousel x = new LeakCarousel();
+  private static Renewed worked() {
+    Renewed x = new Renewed();
     x.build(3);
     x.equip(0, 500, 1);
     x.equip(2, 7, 2);
@@ -30,7 +30,7 @@ public final class TellingTest {
   }
 
   private static void promise16Head() {
-    LeakCarousel x = worked();
+    Renewed x = worked();
     int[][] due = {
       {500, 1, 2, 3, 2, 1, 0, 1, 2},
       {0, 0, 1, 0, 1, 0, 1, 0, 0},
@@ -60,7 +60,7 @@ public final class TellingTest {
   }
 
   private static void promise17Gauge() {
-    LeakCarousel x = worked();
+    Renewed x = worked();
     double worn = 1.0 * (1.0 - 500 / 1000000.0);
     Check.dueNumber("gauge(0, 0)", x.gauge(0, 0), worn * (1.0 - 500 / 1000000.0));
     Check.dueNumber("gauge(2, 0)", x.gauge(2, 0), 1.0);
@@ -82,7 +82,7 @@ public final class TellingTest {
   }
 
   private static void promise18Display() {
-    LeakCarousel x = worked();
+    Renewed x = worked();
     Check.due("display(0)", x.display(0), Float.floatToRawIntBits(500.0f));
     double pressure = Runs.decayed(500.0, 50, 100, 2);
     Check.due("display(1)", x.display(1), Float.floatToRawIntBits((float) pressure));
@@ -93,7 +93,7 @@ public final class TellingTest {
     }
     for (int i = 0; i < 500; i++) {
       double filling = 1.0 + (i * 7919 % 9990) / 10.0 + i / 1.0e9;
-      LeakCarousel y = new LeakCarousel();
+      Renewed y = new Renewed();
       Runs.setPressure(y, 0, filling);
       y.add(false, i * 131 % 3000, 1 + i % 5);
       for (int step = 0; step < 4; step++) {
@@ -106,7 +106,7 @@ public final class TellingTest {
     double[] ties = {1.0 + 0x1p-24, Math.nextUp(1.0 + 0x1p-24), 1.0 + 3 * 0x1p-24, 999.99999, 1000.0, 1.0,
       Math.nextDown(512.0), Math.nextDown(1.0 + 3 * 0x1p-24)};
     for (double filling : ties) {
-      LeakCarousel y = new LeakCarousel();
+      Renewed y = new Renewed();
       Runs.setPressure(y, 0, filling);
       y.add(false, 0, 1);
       y.run(1);
@@ -117,7 +117,7 @@ public final class TellingTest {
   private static void promise18DisplayOfSmallPressures() {
     int[][] parts = {{99999, 100}, {99999, 1}, {99998, 100}, {999, 1}, {1000, 1}, {9000, 9}, {49000, 49}, {7000, 7}};
     for (int[] part : parts) {
-      LeakCarousel x = new LeakCarousel();
+      Renewed x = new Renewed();
       x.build(8);
       Runs.setPressure(x, 0, 1.0 + 1.0 / 3);
       x.add(false, part[0], part[1]);
@@ -131,7 +131,7 @@ public final class TellingTest {
   }
 
   private static void promise19Part() {
-    LeakCarousel x = worked();
+    Renewed x = worked();
     int none = LeakCarousel.NONE;
     int[][] due = {
       {0, 50, 100, Runs.ON_HEAD, 1, 1, 0, none, none},
@@ -160,7 +160,7 @@ public final class TellingTest {
   }
 
   private static void promise20Fits() {
-    LeakCarousel x = new LeakCarousel();
+    Renewed x = new Renewed();
     x.equip(1, 0, 1);
     x.equip(2, 0, 2);
     x.add(false, 1, 1);
@@ -183,7 +183,7 @@ public final class TellingTest {
   }
 
   private static void promise21Value() {
-    LeakCarousel x = worked();
+    Renewed x = worked();
     double worn = 1.0 * (1.0 - 500 / 1000000.0);
     Check.dueNumber("value(0)", x.value(0), (500.0 - Runs.decayed(500.0, 50, 100, 2)) * 100 / 2 * 1.0 * 1.0);
     Check.dueNumber("value(1)", x.value(1), (500.0 - Runs.decayed(500.0, 900, 1, 2)) * 1 / 2 * 1.0 * 1.0);
@@ -209,7 +209,7 @@ public final class TellingTest {
   }
 
   private static void promise22Foretold() {
-    LeakCarousel x = worked();
+    Renewed x = worked();
     x.calibrate(2, 77);
     Runs.setPressure(x, 0, 333.0);
     int[][] parts = {{50, 100}, {900, 1}, {20, 10}, {21, 10}, {22, 10}};
@@ -229,7 +229,7 @@ public final class TellingTest {
     x.add(false, 99999, 2);
     Check.dueNumber("foretold of a burst", x.foretold(5, 1), 333.0 * 2 / 2 * 1.0 * 1.0);
     for (int heads = 2; heads <= 8; heads++) {
-      LeakCarousel y = new LeakCarousel();
+      Renewed y = new Renewed();
       y.build(heads);
       y.add(true, 123, 45);
       double told = y.foretold(0, 0);
@@ -239,7 +239,7 @@ public final class TellingTest {
   }
 
   private static void promise23PressureBits() {
-    LeakCarousel x = new LeakCarousel();
+    Renewed x = new Renewed();
     for (int i = 0; i < 3; i++) {
       x.setPressure(i, Double.doubleToRawLongBits(100.1 + i));
     }
@@ -257,7 +257,7 @@ public final class TellingTest {
   }
 
   private static void promise24Trace() {
-    LeakCarousel x = new LeakCarousel();
+    Renewed x = new Renewed();
     x.add(false, 321, 9);
     x.add(true, 999, 1);
     for (int told = 0; told < 4; told++) {
@@ -288,7 +288,7 @@ public final class TellingTest {
   }
 
   private static void promise25Count() {
-    LeakCarousel x = worked();
+    Renewed x = worked();
     int[] due = {3, 7, 5, 1, 2, 1, 1, 3, 1, 20, 1, 0, 0, 0, 0, 4, 35};
     for (int what = 0; what < due.length; what++) {
       Check.due("count(" + what + ")", x.count(what), due[what]);
@@ -297,7 +297,7 @@ public final class TellingTest {
     for (int far : FAR) {
       Check.due("count(" + far + ")", x.count(far), LeakCarousel.BAD_VALUE);
     }
-    LeakCarousel y = new LeakCarousel();
+    Renewed y = new Renewed();
     y.build(2);
     y.setInterval(2);
     Runs.read(y, "v900/1;v90/100;p50/100;v1/1;v1/1");
@@ -321,7 +321,7 @@ public final class TellingTest {
   }
 
   private static void tellingChangesNothing() {
-    LeakCarousel x = worked();
+    Renewed x = worked();
     String told = Runs.stateOf(x);
     int states = x.count(15);
     for (int i = -1; i < 20; i++) {

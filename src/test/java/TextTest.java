@@ -17,7 +17,7 @@ public final class TextTest {
   }
 
   private static void promise9Type() {
-    LeakCarousel x = new LeakCarousel();
+    Renewed x = new Renewed();
     for (int i = 1; i <= 60; i++) {
       Check.due("type", x.type((char) ('a' + i % 26)), i);
       Check.due("count(16)", x.count(16), i);
@@ -31,7 +31,7 @@ public final class TextTest {
   }
 
   private static void promise9AnyCharacter() {
-    LeakCarousel x = new LeakCarousel();
+    Renewed x = new Renewed();
     char[] any = {0, 1, '\n', ' ', 127, 128, 233, 255, 256, 0xD800, 0xFFFF};
     for (int i = 0; i < any.length; i++) {
       Check.due("type((char) " + (int) any[i] + ")", x.type(any[i]), i + 1);
@@ -59,7 +59,7 @@ public final class TextTest {
   }
 
   private static void promise10ClearText() {
-    LeakCarousel x = new LeakCarousel();
+    Renewed x = new Renewed();
     Check.due("clearText()", x.clearText(), 0);
     Runs.write(x, "v1/1");
     Check.due("clearText()", x.clearText(), 4);
@@ -72,7 +72,7 @@ public final class TextTest {
   }
 
   private static void promise11Reads() {
-    LeakCarousel x = new LeakCarousel();
+    Renewed x = new Renewed();
     x.add(true, 5, 5);
     Runs.write(x, "v0/1;p99999/999;v10/20;p305/70");
     Runs.dueAct(x, "readParts()", () -> x.readParts(), 4);
@@ -135,14 +135,14 @@ public final class TextTest {
   }
 
   private static void dueFault(String words, int fault) {
-    LeakCarousel x = new LeakCarousel();
+    Renewed x = new Renewed();
     x.add(true, 1, 1);
     Runs.write(x, words);
     Runs.dueRefused(x, "readParts() of " + words, () -> x.readParts(), -100 - fault);
   }
 
   private static void promise11FaultAheadOfFull() {
-    LeakCarousel x = new LeakCarousel();
+    Renewed x = new Renewed();
     for (int i = 0; i < 58; i++) {
       x.add(false, 1, 1);
     }
@@ -159,7 +159,7 @@ public final class TextTest {
   }
 
   private static void promise11SixtyCharacters() {
-    LeakCarousel x = new LeakCarousel();
+    Renewed x = new Renewed();
     Runs.write(x, "v0/1;v0/1;v0/1;v0/1;v0/1;v0/1;v0/1;v0/1;v0/1;v0/1;v0/1;v0/1;");
     Check.due("count(16)", x.count(16), 60);
     Runs.dueRefused(x, "60 characters, too early", () -> x.readParts(), -160);
@@ -172,7 +172,7 @@ public final class TextTest {
   }
 
   private static void promise12Step() {
-    LeakCarousel x = new LeakCarousel();
+    Renewed x = new Renewed();
     x.build(2);
     x.add(true, 1, 1);
     Runs.write(x, "step");
@@ -186,7 +186,7 @@ public final class TextTest {
 
   private static void promise12Turn() {
     for (int heads = 2; heads <= 8; heads++) {
-      LeakCarousel x = new LeakCarousel();
+      Renewed x = new Renewed();
       x.build(heads);
       Runs.read(x, "v1/1;v1/1");
       Runs.write(x, "turn");
@@ -199,7 +199,7 @@ public final class TextTest {
   }
 
   private static void promise12Stop() {
-    LeakCarousel x = new LeakCarousel();
+    Renewed x = new Renewed();
     Runs.write(x, "stop");
     Runs.dueRefused(x, "stop without parts", () -> x.perform(), LeakCarousel.NONE);
     Runs.read(x, "v1/1;v50/100;p7/7");
@@ -225,7 +225,7 @@ public final class TextTest {
   }
 
   private static void promise12Clear() {
-    LeakCarousel x = new LeakCarousel();
+    Renewed x = new Renewed();
     Runs.write(x, "clear");
     Runs.dueRefused(x, "clear of empty heads", () -> x.perform(), LeakCarousel.NONE);
     Runs.read(x, "v50/100;v1/1;v1/2;v1/3;v1/4;v1/5");
@@ -261,7 +261,7 @@ public final class TextTest {
   }
 
   private static void promise12NoCommand() {
-    LeakCarousel x = new LeakCarousel();
+    Renewed x = new Renewed();
     x.add(false, 1, 1);
     String[] wrong = {"", "s", "ste", "steps", "Step", "step ", " step", "STEP", "tur", "turns", "top",
       "stopp", "stop;", "clea", "clears", "cleer", "stap", "torn", "v1/1", "stepstep", "undo"};
