@@ -15,6 +15,7 @@ public final class EdgeStepsTest {
     promise8TestsInOneCall();
     promise8StationComesRound();
     promise8StationFarOn();
+    promise8LastPromisedCall();
     promise8OnlyTheStationTests();
     promise8EmptyHeadEndsNoTest();
     promise8FilledAtTheStationStays();
@@ -233,6 +234,22 @@ public final class EdgeStepsTest {
       x.run(1);
       Check.due("head(18000 mod n, 3)", x.head(18000 % heads, 3), 0);
     }
+  }
+
+  /** "An object is used for at most 512 calls after it has been made": the last one answers like the first. */
+  private static void promise8LastPromisedCall() {
+    LeakCarousel x = new LeakCarousel();
+    for (int i = 0; i < 511; i++) {
+      x.run(40);
+    }
+    Check.due("count(1), the 512th call", x.count(1), 511 * 40);
+    LeakCarousel y = new LeakCarousel();
+    for (int i = 0; i < 255; i++) {
+      y.setInterval(1 + i % 2);
+      y.setInterval(3);
+    }
+    Check.due("setInterval(99), the 511th call", y.setInterval(99), 3);
+    Check.due("undo(), the 512th call", y.undo(), 3);
   }
 
   private static void promise8OnlyTheStationTests() {
