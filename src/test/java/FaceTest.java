@@ -1,3 +1,4 @@
+import java.io.DataInputStream;
 import java.io.IOException;
 import java.lang.reflect.Constructor;
 import java.lang.reflect.Field;
@@ -25,10 +26,16 @@ public final class FaceTest {
     "\\bDouble\\b", "\\bFloat\\b", "\\bMath\\b", "\\bObject\\b", "\\bString\\.", "Exact\\(", "\" \\+", "\\+ \"",
     "static \\{"};
 
+  /** Rule 4: all that the class calls beside its own, and the types that it names. */
+  private static final Set<String> LIBRARY = Set.of("java/lang/Object.<init>", "java/lang/String.length",
+      "java/lang/String.charAt");
+  private static final Set<String> TYPES = Set.of("java/lang/Object", "java/lang/String");
+
   public static void main(String[] args) throws IOException {
     face();
     nothingElseIsSeen();
     classesInside();
+    library();
     source(Files.readString(Path.of("src/main/java/LeakCarousel.java")));
     Check.finish();
   }
@@ -109,6 +116,59 @@ public final class FaceTest {
     }
     for (Method method : type.getDeclaredMethods()) {
       Check.dueTrue(method + " has at most seven parameters", method.getParameterCount() <= 7);
+    }
+  }
+
+  // ---- what the compiled classes name
+
+  private static void library() throws IOException {
+    namesIn(LeakCarousel.class);
+    for (Class<?> inside : LeakCarousel.class.getDeclaredClasses()) {
+      namesIn(inside);
+    }
+  }
+
+  private static void namesIn(Class<?> type) throws IOException {
+    try (DataInputStream in = new DataInputStream(type.getResourceAsStream(type.getName() + ".class"))) {
+      in.skipBytes(8);
+      Object[] pool = new Object[in.readUnsignedShort()];
+      for (int i = 1; i < pool.length; i++) {
+        int tag = in.readUnsignedByte();
+        pool[i] = entry(in, tag);
+        // a long or a double takes two places
+        i += tag == 5 || tag == 6 ? 1 : 0;
+      }
+      for (Object entry : pool) {
+        if (entry instanceof int[] parts) {
+          dueAllowed(type, pool, parts);
+        }
+      }
+    }
+  }
+
+  /** A text, the numbers of other entries behind their tag, or nothing that tells a name. */
+  private static Object entry(DataInputStream in, int tag) throws IOException {
+    switch (tag) {
+      case 1: return in.readUTF();
+      case 7: return new int[] {tag, in.readUnsignedShort()};
+      case 9: case 10: case 11: case 12: return new int[] {tag, in.readUnsignedShort(), in.readUnsignedShort()};
+      case 5: case 6: return in.readLong();
+      case 8: case 16: case 19: case 20: return in.readShort();
+      case 15: return in.skipBytes(3);
+      default: return in.readInt();
+    }
+  }
+
+  private static void dueAllowed(Class<?> type, Object[] pool, int[] parts) {
+    if (parts[0] == 7) {
+      String name = (String) pool[parts[1]];
+      boolean own = name.matches("(\\[L)?LeakCarousel(\\$\\w+)?;?");
+      boolean numbers = name.matches("\\[{1,2}[A-Z]");
+      Check.dueTrue(type + " names " + name, own || numbers || TYPES.contains(name));
+    } else if (parts[0] == 10 || parts[0] == 11) {
+      String owner = (String) pool[((int[]) pool[parts[1]])[1]];
+      String call = owner + "." + pool[((int[]) pool[parts[2]])[1]];
+      Check.dueTrue(type + " calls " + call, owner.startsWith("LeakCarousel") || LIBRARY.contains(call));
     }
   }
 
